@@ -1026,7 +1026,7 @@ public final class ContourLabels {
         private static final int SCALE = 3;
         private static final int WIDTH = 72;
         private static final int HEIGHT = 48;
-        private static final int DOTS = 3456;
+        private static final int DOTS = WIDTH * HEIGHT;
         private static final int FREE = 0;
         private static final int DRAWN = 1;
         private static final int REACHED = 2;

@@ -211,6 +211,39 @@ public final class PromisesTest {
         due("4 a new one", 0, () -> x.begin(7, 0));
         due("4 without a label", -1, () -> x.labelOf(0));
         due("4 without steps", 0, () -> x.stepsOf(0));
+        for (int line = 0; line < 8; line++) {
+            wipeOneOfEight(line);
+        }
+    }
+
+    private static void wipeOneOfEight(int gone) {
+        ContourLabels x = new ContourLabels();
+        for (int line = 0; line < 8; line++) {
+            line(x, line, point(line, 2 * line), "0".repeat(line));
+            if (line > 0) {
+                x.label(line, line - 1);
+            }
+        }
+        String before = look(x).split("; ", 2)[1];
+        due("4 seven left", 7, () -> x.wipe(gone));
+        for (int line = 0; line < 7; line++) {
+            int here = line;
+            int was = line < gone ? line : line + 1;
+            due("4 level", was, () -> x.levelOf(here));
+            due("4 steps", was, () -> x.stepsOf(here));
+            due("4 label", was == 0 ? -1 : was - 1, () -> x.labelOf(here));
+            due("4 first point", point(was, 2 * was), () -> x.pointOf(here, 0));
+            due("4 last point", point(2 * was, 2 * was), () -> x.pointOf(here, was));
+        }
+        due("4 the point is free", -1, () -> x.lineAt(point(gone, 2 * gone)));
+        due("4 room again", 7, () -> x.begin(50, 383));
+        x.undo();
+        x.undo();
+        due("42 all eight are back", before, () -> look(x).split("; ", 2)[1]);
+        x.takeSnapshot();
+        x.wipe(7 - gone);
+        x.restoreSnapshot();
+        due("45 all eight are back", before, () -> look(x).split("; ", 2)[1]);
     }
 
     // Promise 5
@@ -698,6 +731,11 @@ public final class PromisesTest {
             line(z, 5, point(5, 2), "0000001");
             return z.bestPlace(1);
         });
+        due("30 the only place is bent", 0, () -> {
+            ContourLabels z = new ContourLabels();
+            line(z, 10, point(5, 5), "01");
+            return z.bestPlace(0);
+        });
         due("30 distance ties", 0, () -> {
             ContourLabels z = new ContourLabels();
             line(z, 5, point(5, 2), "0");
@@ -816,10 +854,17 @@ public final class PromisesTest {
         due("36 the same level", false, () -> x.isSteady(5));
         x.setLevel(5, 9);
         due("36 4 above", false, () -> x.isSteady(5));
-        due("35 above", INDEX, () -> x.lineRound(6));
-        due("36 above", INDEX, () -> x.isSteady(6));
+        x.begin(20, point(10, 10));
+        due("35 round a point", 1, () -> x.lineRound(6));
+        due("35 above", INDEX, () -> x.lineRound(7));
+        due("36 above", INDEX, () -> x.isSteady(7));
         due("35 below", INDEX, () -> x.lineRound(-1));
         due("36 below", INDEX, () -> x.isSteady(-1));
+        ContourLabels y = new ContourLabels();
+        line(y, 10, point(2, 2), "00224466");
+        y.begin(15, point(3, 3));
+        due("35 round a line behind it", 0, () -> y.lineRound(1));
+        due("35 not round itself", -1, () -> y.lineRound(0));
     }
 
     // Promise 37
