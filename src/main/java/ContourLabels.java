@@ -764,7 +764,7 @@ public final class ContourLabels {
             for (int number = 0; number < steps; number++) {
                 int from = pointAt(line, number);
                 int to = pointAt(line, number + 1);
-                if (from == one && to == other || from == other && to == one) {
+                if ((from == one && to == other) || (from == other && to == one)) {
                     return true;
                 }
             }
@@ -804,7 +804,7 @@ public final class ContourLabels {
             int ahead = 0;
             for (int other = 0; other < count; other++) {
                 int otherLevel = levelIn(other);
-                if (otherLevel < level || otherLevel == level && other < line) {
+                if (otherLevel < level || (otherLevel == level && other < line)) {
                     ahead++;
                 }
             }
@@ -930,7 +930,7 @@ public final class ContourLabels {
                 }
                 int bend = bendOfPlace(sheet, line, place);
                 int far = distanceToOthers(sheet, line, place);
-                boolean better = best == NONE || bend < leastBend || bend == leastBend && far > furthest;
+                boolean better = best == NONE || bend < leastBend || (bend == leastBend && far > furthest);
                 if (better && far >= sheet.gapWidth()) {
                     best = place;
                     leastBend = bend;
@@ -1292,14 +1292,14 @@ public final class ContourLabels {
                 oldest = (oldest + 1) % MOST_SAVED;
                 savedCount--;
             }
-            savedAt(savedCount).copyFrom(sheet);
+            copy(sheet, savedAt(savedCount));
             savedCount++;
         }
 
         void giveBack(Sheet sheet) {
             if (savedCount > 0) {
                 savedCount--;
-                sheet.copyFrom(savedAt(savedCount));
+                copy(savedAt(savedCount), sheet);
             }
         }
 
@@ -1307,18 +1307,24 @@ public final class ContourLabels {
             return saved[(oldest + age) % MOST_SAVED];
         }
 
+        private static void copy(Sheet from, Sheet to) {
+            if (from != null && to != null) {
+                to.copyFrom(from);
+            }
+        }
+
         boolean hasSnapshot() {
             return isTaken;
         }
 
         void keepSnapshot(Sheet sheet) {
-            snapshot.copyFrom(sheet);
+            copy(sheet, snapshot);
             isTaken = true;
         }
 
         void giveSnapshot(Sheet sheet) {
             if (isTaken) {
-                sheet.copyFrom(snapshot);
+                copy(snapshot, sheet);
             }
         }
     }

@@ -47,6 +47,7 @@ public final class PromisesTest {
         undo();
         undoableCalls();
         snapshot();
+        extremes();
         System.out.println(wrong == 0 ? "all promises hold" : wrong + " answers are not as due");
         if (wrong != 0) {
             System.exit(1);
@@ -1125,5 +1126,41 @@ public final class PromisesTest {
         due("45 it stays", 1, x::restoreSnapshot);
         due("45 steps", 6, () -> x.stepsOf(0));
         due("45 level", 20, () -> x.levelOf(0));
+    }
+
+    // Numbers far out of range, in every argument.
+    private static void extremes() {
+        ContourLabels x = new ContourLabels();
+        line(x, 5, point(3, 3), "0000");
+        for (int far : new int[] {Integer.MIN_VALUE, Integer.MIN_VALUE + 1, -25, 384, Integer.MAX_VALUE - 1,
+            Integer.MAX_VALUE}) {
+            refused("2 far point", x, INDEX, () -> x.begin(5, far));
+            refused("2 far level", x, ARGUMENT, () -> x.begin(far, 0));
+            refused("3 far line", x, INDEX, () -> x.step(far, 0));
+            refused("3 far direction", x, ARGUMENT, () -> x.step(0, far));
+            refused("4 far", x, INDEX, () -> x.wipe(far));
+            refused("5 far line", x, INDEX, () -> x.setLevel(far, 5));
+            refused("5 far level", x, ARGUMENT, () -> x.setLevel(0, far));
+            refused("6 far line", x, INDEX, () -> x.label(far, 0));
+            refused("6 far place", x, INDEX, () -> x.label(0, far));
+            refused("7 far", x, INDEX, () -> x.unlabel(far));
+            refused("8 far", x, INDEX, () -> x.labelBest(far));
+            refused("10 far", x, ARGUMENT, () -> x.setGap(far));
+            due("12 far", INDEX, () -> x.levelOf(far));
+            due("13 far", INDEX, () -> x.stepsOf(far));
+            due("14 far", INDEX, () -> x.pointOf(0, far));
+            due("15 far", INDEX, () -> x.lineAt(far));
+            due("16 far", INDEX, () -> x.isClosed(far));
+            due("17 far line", INDEX, () -> x.whyNotStepped(far, 0));
+            due("17 far direction", ARGUMENT, () -> x.whyNotStepped(0, far));
+            due("18 far", INDEX, () -> x.bendAt(0, far));
+            due("27 far", INDEX, () -> x.bendOf(0, far));
+            due("28 far", INDEX, () -> x.whyNotLabelled(0, far));
+            due("32 far", INDEX, () -> x.isWithinByRays(0, far));
+            due("33 far", INDEX, () -> x.isWithinBySpreading(0, far));
+            due("35 far", INDEX, () -> x.lineRound(far));
+            due("37 far", INDEX, () -> x.lineByLevel(far));
+            due("38 far", ARGUMENT, () -> x.append(far));
+        }
     }
 }
