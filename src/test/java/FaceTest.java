@@ -77,6 +77,12 @@ public final class FaceTest {
             }
         }
         due("the face", face(), found);
+        for (Method method : ContourLabels.class.getDeclaredMethods()) {
+            if (Modifier.isPrivate(method.getModifiers())) {
+                String name = " " + method.getName() + "(";
+                due("a name of the face: " + method, false, found.keySet().stream().anyMatch(it -> it.contains(name)));
+            }
+        }
         Constructor<?>[] constructors = ContourLabels.class.getDeclaredConstructors();
         due("constructors", 1, constructors.length);
         due("a constructor's parameters", 0, constructors[0].getParameterCount());

@@ -39,6 +39,8 @@ final class TermsBoundaries {
         bestByDistance();
         within();
         withinBySlits();
+        withinBySlants();
+        withinAtTheEdge();
         linesWithin();
         lineRound();
         steady();
@@ -238,6 +240,16 @@ final class TermsBoundaries {
         Checks.due("onto its second point", 4, () -> y.whyNotStepped(0, 7));
         Checks.due("onto its first point", 0, () -> y.whyNotStepped(0, 6));
         Checks.due("onto no point", 0, () -> y.whyNotStepped(0, 5));
+        // A long line closes at its first point alone: not at points with lower or higher numbers.
+        for (int direction = 0; direction < 8; direction++) {
+            int ahead = direction;
+            int back = (direction + 4) % 8;
+            ContourLabels straight = Checks.one(5, Checks.point(10, 8), ("" + ahead).repeat(5));
+            Checks.due("right back", 4, () -> straight.whyNotStepped(0, back));
+            Checks.due("right back", Checks.STATE, () -> straight.step(0, back));
+            straight.begin(5, beside(straight.pointOf(0, 5), ahead));
+            Checks.due("onto another line", 4, () -> straight.whyNotStepped(0, ahead));
+        }
     }
 
     private static void closing() {
@@ -736,6 +748,36 @@ final class TermsBoundaries {
         for (int eighths = 0; eighths < 8; eighths += 2) {
             checkWithin(turn(slant, eighths), Checks.point(10, 8));
             checkWithin(back(turn(slant, eighths)), Checks.point(10, 8));
+        }
+    }
+
+    // The same with a way out between slanting steps side by side: one point is within, the pocket is not.
+    private static void withinBySlants() {
+        String way = "563570165442421117";
+        for (int eighths = 0; eighths < 8; eighths += 2) {
+            int within = beside(Checks.point(10, 8), (4 + eighths) % 8);
+            checkWithin(turn(way, eighths), Checks.point(10, 8), within);
+            checkWithin(back(turn(way, eighths)), Checks.point(10, 8), within);
+        }
+    }
+
+    // What a line shuts off together with the edge of the map is not within: spreading begins all round the map.
+    private static void withinAtTheEdge() {
+        int[] bays = {Checks.point(4, 0), Checks.point(23, 4), Checks.point(19, 15), Checks.point(0, 11)};
+        int[] corners = {Checks.point(0, 2), Checks.point(21, 0), Checks.point(23, 13), Checks.point(2, 15)};
+        for (int side = 0; side < 4; side++) {
+            checkWithin(turn("222000666" + "0" + "2222444446666" + "0", 2 * side), bays[side]);
+            checkWithin(turn("7703336", 2 * side), corners[side]);
+        }
+        // An answer leaves nothing behind for the next one, of a line that goes round more.
+        ContourLabels x = Checks.one(5, Checks.point(2, 2), DIAMOND);
+        Checks.line(x, 5, 23, "2".repeat(15) + "4".repeat(15) + "6".repeat(15) + "0".repeat(15));
+        for (int column = 9; column <= 22; column += 2) {
+            for (int row = 1; row <= 14; row++) {
+                int point = Checks.point(column, row);
+                Checks.due("within the small line", false, () -> x.isWithinBySpreading(0, point));
+                Checks.due("within the wide line", true, () -> x.isWithinBySpreading(1, point));
+            }
         }
     }
 
